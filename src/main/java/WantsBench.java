@@ -147,7 +147,7 @@ public final class WantsBench {
             playSet = 0;
             return NOT;
         }
-        int out = Integer.numberOfTrailingZeros(outs);
+        int out = leastBit(outs);
         playPlace = stage.placeAfter(playPlace, 8 * in + out);
         return out;
     }
@@ -429,6 +429,15 @@ public final class WantsBench {
 
     private static boolean isIn(int bits, int place) {
         return (bits >>> place & 1) == 1;
+    }
+
+    private static int leastBit(int bits) {
+        for (int place = 0; place < 32; place++) {
+            if (isIn(bits, place)) {
+                return place;
+            }
+        }
+        return NONE;
     }
 
     private static int bit(boolean is) {
@@ -904,6 +913,8 @@ public final class WantsBench {
 
     /** PEACE: terms are tried in the document's order, so that the first of the cheapest ones stays. */
     private static final class Treaty {
+        /** Above any price: all sides left cost less. */
+        private static final int NO_PRICE = 1000;
         private static final int SIDES = 4;
 
         private final Law[] sides = new Law[SIDES];
@@ -914,7 +925,7 @@ public final class WantsBench {
 
         void begin() {
             size = 0;
-            bestPrice = Integer.MAX_VALUE;
+            bestPrice = NO_PRICE;
         }
 
         void invite(Law law) {
@@ -928,22 +939,26 @@ public final class WantsBench {
             return side >= 0 && side < size ? best[side] : NONE;
         }
 
-        /** What the first sides can't obey alone, no terms of the others mend: only what stands is gone on with. */
-        void settle(Game game, int side, int price) {
+        private void settle(Game game, int side, int price) {
             if (side >= size || side >= SIDES) {
                 System.arraycopy(terms, 0, best, 0, SIDES);
                 bestPrice = price;
                 return;
             }
-            Law law = sides[side];
             for (int term = Law.KEPT; term <= Law.LEFT; term++) {
-                int cost = price + law.priceOf(term);
-                if (cost < bestPrice && law.allows(term)) {
-                    terms[side] = term;
-                    if (term == Law.LEFT || stands(game, side + 1)) {
-                        settle(game, side + 1, cost);
-                    }
-                }
+                offer(game, side, term, price);
+            }
+        }
+
+        /** What the first sides can't obey alone, no terms of the others mend: only what stands is gone on with. */
+        private void offer(Game game, int side, int term, int price) {
+            int cost = price + sides[side].priceOf(term);
+            if (cost >= bestPrice || !sides[side].allows(term)) {
+                return;
+            }
+            terms[side] = term;
+            if (term == Law.LEFT || stands(game, side + 1)) {
+                settle(game, side + 1, cost);
             }
         }
 

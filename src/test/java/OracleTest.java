@@ -12,7 +12,7 @@ import java.util.TreeSet;
  * (texts by a stack machine, truth by cutting strings, games over all positions, peace over all terms).
  */
 public final class OracleTest {
-    private static final int RUNS = 260, CALLS = 512;
+    private static final int RUNS = 600, CALLS = 512;
     private static final int[] ODD = {-1, 0, 1, 2, 4, 5, 7, 8, 9, 10, 19, 20, 21, 31, 32, 63, 64, 99, 100, 9999, 10000,
         1 << 20, 1 << 30, Integer.MAX_VALUE, Integer.MIN_VALUE, -8};
 
@@ -334,7 +334,7 @@ public final class OracleTest {
         private static String spoiled(Random r, String text) {
             StringBuilder s = new StringBuilder(text);
             int at = r.nextInt(text.length());
-            String signs = "abcxyz01234~()&|!>; A";
+            String signs = "abcxyz01234~()&|!>; A\0";
             char sign = r.nextInt(12) == 0 ? (char) r.nextInt(256) : signs.charAt(r.nextInt(signs.length()));
             switch (r.nextInt(4)) {
                 case 0: s.setCharAt(at, sign); break;

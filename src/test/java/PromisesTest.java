@@ -177,6 +177,7 @@ public final class PromisesTest {
             {" a", 0}, {"A>x1", 0}, {"d>x1", 0}, {"w>x1", 0}, {"2>x1", 0}, {"a>21", 2}, {"a>1", 3}, {"a>~1", 4}, {"()", 1}, {"(a", 2},
             {"(a>x1", 2}, {"(a1", 2}, {"(a;", 2}, {"a)", 1}, {"a>x)1", 3}, {"a||b", 2}, {"a&|b", 2}, {"&a", 0}, {"|a", 0}, {">x1", 0}, {";x1", 0},
             {"a&", 2}, {"a|", 2}, {"~", 1}, {"~)", 1}, {"a~b", 1}, {"a(b)", 1}, {"(a)(b)", 3}, {"!a)", 2}, {"!(a))", 4}, {"!(a", 3},
+            {"!a\0", 2}, {"a>x1\0", 4}, {"\0", 0}, {"a\0>x1", 1}, {"a>\0", 2}, {"!(\0", 2}, {"!\u00e1", 1},
             {"a>(x1", 4}, {"a>(x", 4}, {"a>x&1", 5}, {"a>x&11", -1}, {"a>x&12", -1}, {"a>x|01", -1}, {"a?x1", 1},
             {"!" + times("a|", 39), 79}, {times("a&", 40), 80}, {times("a", 80), 1}};
         for (Object[] f : faults) {
@@ -212,6 +213,9 @@ public final class PromisesTest {
         due(5, "giveUp(-1)", x.giveUp(-1), NONE);
         due(5, "giveUp(2)", x.giveUp(2), NONE);
         due(5, "giveUp(HIGH)", x.giveUp(HIGH), NONE);
+        WantsBench y = with("!x");
+        due(5, "on day 0", y.giveUp(0), 1);
+        due(5, "on day 0 again", y.giveUp(0), THERE);
         x.today(3);
         due(5, "giveUp(0)", x.giveUp(0), 1);
         x.today(4);
@@ -237,6 +241,8 @@ public final class PromisesTest {
                 due(6, "about(" + w + ", " + what + ")", x.about(w, what), rows[w][what]);
             }
         }
+        due(6, "a NEVER behind a FOR 3", read(x, "!x"), 3);
+        due(6, "has n 0", x.about(3, 1), 0);
         x.part();
         x.part();
         x.part();
@@ -250,7 +256,7 @@ public final class PromisesTest {
         due(6, "read on day 7", x.about(2, 5), 7);
         due(6, "about(0, 9)", x.about(0, 9), NONE);
         due(6, "about(0, -1)", x.about(0, -1), NONE);
-        due(6, "about(3, 0)", x.about(3, 0), NONE);
+        due(6, "about(4, 0)", x.about(4, 0), NONE);
         due(6, "about(-1, 0)", x.about(-1, 0), NONE);
         due(6, "about(LOW, HIGH)", x.about(LOW, HIGH), NONE);
     }
@@ -360,6 +366,7 @@ public final class PromisesTest {
         due(10, "no F ever", x.safe(64), 0);
         due(10, "16 positions of two wants", x.safe(4 | 16), 16);
         due(10, "x for s ticks, ~x within t: not if t is above 0 and s at least t", x.safe(16 | 128), 16 - 6);
+        due(10, "later losses than the first position's", with("a>x0", "!x").safe(3), 0);
         due(10, "all positions of five", with("!0", "!0", "!0", "!0", "0>x1").safe(31), 1024);
     }
 
@@ -420,6 +427,7 @@ public final class PromisesTest {
         x.play(7);
         due(13, "y is not OPEN without c", x.open(0), 4);
         due(13, "all with c", x.open(4), 8);
+        due(13, "all with a, b and c", x.open(7), 8);
         due(13, "open(8)", x.open(8), NONE);
         due(13, "open(-1)", x.open(-1), NONE);
         due(13, "open(LOW)", x.open(LOW), NONE);
@@ -561,6 +569,11 @@ public final class PromisesTest {
         due(20, "EASED by 2", z.made(0), 2);
         due(20, "kept", z.made(1), 0);
         due(19, "asking changes no want", z.about(0, 1) + z.can(3), 0);
+        WantsBench u = new WantsBench();
+        read(u, "1>x0", 30, 4);
+        read(u, "x;~x3", 30, 40);
+        due(19, "x every fourth tick: three ticks more", u.peace(3), 12);
+        due(20, "EASED by 3", u.made(0), 3);
     }
 
     private static void peaceTies() {
@@ -609,6 +622,8 @@ public final class PromisesTest {
         due(21, "told(0, 8)", x.told(0, 8), NONE);
         due(21, "told(-1, 0)", x.told(-1, 0), NONE);
         due(21, "told(0, LOW)", x.told(0, LOW), NONE);
+        due(21, "told(7, 7)", x.told(7, 7), 1);
+        due(22, "clear()", x.clear(), 1);
         for (int i = 1; i < 200; i++) {
             due(21, "told(7, 6)", x.told(7, 6), i);
         }
@@ -687,6 +702,8 @@ public final class PromisesTest {
         due(25, "a part more", x.part(), FULL);
         due(25, "count(4)", x.count(4), 20);
         due(29, "all are BARE", x.bare(0), (1 << 20) - 1);
+        due(26, "part 20", x.use(20, 0, 1), NONE);
+        due(31, "part 20", x.wants(20, 0), NONE);
     }
 
     private static void use() {
@@ -827,6 +844,7 @@ public final class PromisesTest {
         for (int what = 0; what < 6; what++) {
             due(32, "count(" + what + ")", x.count(what), row[what]);
         }
+        due(32, "all are there", with("!x", "!y", "!z").count(2), 3);
         due(32, "count(6)", x.count(6), NONE);
         due(32, "count(-1)", x.count(-1), NONE);
         due(32, "count(LOW)", x.count(LOW), NONE);
@@ -848,6 +866,18 @@ public final class PromisesTest {
             due(17, "quarrel(" + set + ")", x.quarrel(set), NONE);
             due(18, "follows(0, " + set + ")", x.follows(19, set), NONE);
             due(19, "peace(" + set + ")", x.peace(set), NONE);
+        }
+        for (int want = 20; want < 24; want++) {
+            due(5, "giveUp(" + want + ")", x.giveUp(want), NONE);
+            due(6, "about(" + want + ", 0)", x.about(want, 0), NONE);
+            due(7, "holds(" + want + ", 0, 0, 0)", x.holds(want, 0, 0, 0), NONE);
+            due(8, "next(" + want + ", 0, 0)", x.next(want, 0, 0), NONE);
+            due(14, "state(" + want + ")", x.state(want), NONE);
+            due(18, "follows(" + want + ", 1)", x.follows(want, 1), NONE);
+            due(20, "made(" + want + ")", x.made(want), NONE);
+            due(23, "held(" + want + ")", x.held(want), NONE);
+            due(27, "lead(" + want + ", 0, 1)", x.lead(want, 0, 1), NONE);
+            due(30, "reach(" + want + ")", x.reach(want), NONE);
         }
         due(9, "the last want", x.can(1 << 19), 1);
         due(9, "the last five", x.can(31 << 15), 1);

@@ -720,6 +720,7 @@ public final class WantsBench {
         /** The places that are not lost as yet; for lastMayBreakAlone the places that have been reached. */
         private final int[] row = new int[PLACES];
         private int rowLength;
+        /** The round in which a place was lost; for lastMayBreakAlone 1 where a place has been reached. */
         private final int[] lost = new int[PLACES];
         private final long[] wayTolds = new long[WAYS];
         private final int[] wayEnds = new int[WAYS];

@@ -436,6 +436,18 @@ public final class PromisesTest {
         due(13, "and y with c", x.open(4), 2);
         due(12, "so it is", x.tick(0), 5);
         due(13, "what leads to no SAFE POSITION is not OPEN", opensOfTrap(), 4);
+        due(13, "all OUTS for all INS", opensOfAllWays(), 64);
+    }
+
+    /** Five wants that part the tolds of the first position into 32 places: none of them may get lost. */
+    private static int opensOfAllWays() {
+        WantsBench x = with("a;11", "b;11", "c;11", "x;11", "y;11");
+        x.play(31);
+        int all = 0;
+        for (int in = 0; in < 8; in++) {
+            all += x.open(in);
+        }
+        return all;
     }
 
     /** x binds the thing to both y and ~y in the next tick, so x breaks nothing and is not OPEN all the same. */

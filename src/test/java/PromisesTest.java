@@ -538,6 +538,8 @@ public final class PromisesTest {
         due(18, "not by one of them", x.follows(9, 1), 0);
         due(18, "in that same tick", with("!a", "!a&b").follows(1, 1), 1);
         due(18, "one that is broken only later counts", with("a;x1", "!a&~x").follows(1, 1), 0);
+        due(18, "behind four ticks, of 1024 positions", with("a;13", "b;13", "x;13", "y;13", "c>z3").follows(4, 15), 0);
+        due(18, "in none of 1024 positions", with("a;13", "b;13", "x;13", "y;13", "c>13").follows(4, 15), 1);
         due(18, "the SET has it", x.follows(0, 1), NONE);
         due(18, "five wants", x.follows(0, 2 | 4 | 8 | 16 | 32), NONE);
         due(18, "four wants", x.follows(0, 2 | 4 | 8 | 16), 0);

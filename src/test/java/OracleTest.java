@@ -12,7 +12,9 @@ import java.util.TreeSet;
  * (texts by a stack machine, truth by cutting strings, games over all positions, peace over all terms).
  */
 public final class OracleTest {
-    private static final int RUNS = 600, CALLS = 512;
+    private static final int RUNS = 600;
+    /** How many calls one text and one step may take at most. */
+    private static final int OF_A_TEXT = 90, OF_A_STEP = 25;
     private static final int[] ODD = {-1, 0, 1, 2, 4, 5, 7, 8, 9, 10, 19, 20, 21, 31, 32, 63, 64, 99, 100, 9999, 10000,
         1 << 20, 1 << 30, Integer.MAX_VALUE, Integer.MIN_VALUE, -8};
 
@@ -21,11 +23,10 @@ public final class OracleTest {
     private static final TreeMap<String, Integer> seen = new TreeMap<>();
 
     private final Random random;
-    private final WantsBench bench = new WantsBench();
+    private final Bench bench = new Bench();
     private final Model model = new Model();
     private final StringBuilder log = new StringBuilder();
     private final int run;
-    private int calls = 0;
 
     private OracleTest(int run) {
         this.run = run;
@@ -47,7 +48,6 @@ public final class OracleTest {
     }
 
     private void due(String name, int got, int want, int... args) {
-        calls++;
         checked++;
         String call = name + Arrays.toString(args) + " = " + got;
         log.append(call).append('\n');
@@ -66,10 +66,10 @@ public final class OracleTest {
             due("part", bench.part(), model.part());
         }
         int firstWants = random.nextInt(9);
-        for (int i = 0; i < firstWants && calls < CALLS - 30; i++) {
+        for (int i = 0; i < firstWants && bench.left() >= OF_A_TEXT; i++) {
             readOne(run % 7 == 0);
         }
-        while (calls < CALLS && wrong == 0) {
+        while (bench.left() >= OF_A_STEP && wrong == 0) {
             step();
         }
     }
@@ -77,7 +77,7 @@ public final class OracleTest {
     private void step() {
         int pick = random.nextInt(100);
         if (pick < 5) {
-            if (calls < CALLS - 30) {
+            if (bench.left() >= OF_A_TEXT) {
                 readOne(false);
             }
         } else if (pick < 45) {
@@ -200,7 +200,7 @@ public final class OracleTest {
             case 6: {
                 int few = anySet(4);
                 due("peace", bench.peace(few), model.peace(few), few);
-                for (int w = 0; w < model.wants.size() && calls < CALLS - 3; w++) {
+                for (int w = 0; w < model.wants.size(); w++) {
                     if ((few >> w & 1) == 1) {
                         due("made", bench.made(w), model.made(w), w);
                     }

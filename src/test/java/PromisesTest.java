@@ -58,25 +58,10 @@ public final class PromisesTest {
         }
     }
 
-    private static void feed(WantsBench x, String text) {
-        for (int i = 0; i < text.length(); i++) {
-            x.feed(1, text.charAt(i));
-        }
-    }
-
-    private static int read(WantsBench x, String text) {
-        return read(x, text, 1, 1);
-    }
-
-    private static int read(WantsBench x, String text, int worth, int ease) {
-        feed(x, text);
-        return x.want(0, worth, ease);
-    }
-
-    private static WantsBench with(String... texts) {
-        WantsBench x = new WantsBench();
+    private static Bench with(String... texts) {
+        Bench x = new Bench();
         for (String text : texts) {
-            due(4, text, read(x, text) < 0 ? 1 : 0, 0);
+            due(4, text, x.read(text) < 0 ? 1 : 0, 0);
         }
         return x;
     }
@@ -86,7 +71,7 @@ public final class PromisesTest {
     }
 
     private static void newObject() {
-        WantsBench x = new WantsBench();
+        Bench x = new Bench();
         for (int what = 0; what <= 5; what++) {
             due(1, "count(" + what + ")", x.count(what), 0);
         }
@@ -107,7 +92,7 @@ public final class PromisesTest {
     }
 
     private static void today() {
-        WantsBench x = new WantsBench();
+        Bench x = new Bench();
         due(2, "today(5)", x.today(5), 0);
         due(2, "today(5) again", x.today(5), 5);
         due(2, "today(4)", x.today(4), NONE);
@@ -121,7 +106,7 @@ public final class PromisesTest {
     }
 
     private static void feed() {
-        WantsBench x = new WantsBench();
+        Bench x = new Bench();
         due(3, "feed(0, 0)", x.feed(0, 0), NONE);
         due(3, "feed(5, 0)", x.feed(5, 0), NONE);
         due(3, "feed(-1, 0)", x.feed(-1, 0), NONE);
@@ -147,8 +132,8 @@ public final class PromisesTest {
     }
 
     private static void wantNumbers() {
-        WantsBench x = new WantsBench();
-        feed(x, "!x");
+        Bench x = new Bench();
+        x.feed("!x");
         int[][] bad = {{-1, 1, 1}, {10, 1, 1}, {0, 0, 1}, {0, 100, 1}, {0, 1, 0}, {0, 1, 100}, {LOW, 1, 1}, {0, HIGH, 1}, {0, 1, LOW}};
         for (int[] b : bad) {
             due(4, "want with a wrong number", x.want(b[0], b[1], b[2]), NONE);
@@ -157,9 +142,9 @@ public final class PromisesTest {
         due(4, "want(9, 99, 99)", x.want(9, 99, 99), 0);
         due(4, "THE TAPE is empty", x.count(5), 0);
         for (int i = 1; i < 20; i++) {
-            due(4, "want " + i, read(x, "!x"), i);
+            due(4, "want " + i, x.read("!x"), i);
         }
-        feed(x, "!!");
+        x.feed("!!");
         due(4, "NONE comes ahead of FULL", x.want(0, 0, 0), NONE);
         due(4, "a want more", x.want(0, 1, 1), FULL);
         due(4, "THE TAPE stays with FULL", x.count(5), 2);
@@ -170,7 +155,7 @@ public final class PromisesTest {
         String[] sound = {"!0", "!1", "!~~a", "a>x0", "a;x3", "1>10", "1;00", "a|b&c>~(x|y)&z2", "((a))>((x))1",
             "!a&b|c&~x|(y)", "!" + times("a|", 39) + "x", "a&" + times("(x)|", 18) + "z>y1"};
         for (String text : sound) {
-            due(4, text, read(new WantsBench(), text), 0);
+            due(4, text, new Bench().read(text), 0);
         }
         Object[][] faults = {{"", 0}, {"!", 1}, {"!a>x1", 2}, {"!a1", 2}, {"!!a", 1}, {"!a!", 2}, {"a", 1}, {"a>", 2}, {"a>x", 3},
             {"a>x4", 3}, {"a>x9", 3}, {"a>xx", 3}, {"a>x11", 4}, {"a>x1;", 4}, {"a;x>1", 3}, {"a>x;y1", 3}, {"ab>x1", 1}, {"a b", 1},
@@ -182,13 +167,13 @@ public final class PromisesTest {
             {"!" + times("a|", 39), 79}, {times("a&", 40), 80}, {times("a", 80), 1}};
         for (Object[] f : faults) {
             int fault = (Integer) f[1];
-            due(4, "'" + f[0] + "'", read(new WantsBench(), (String) f[0]), fault < 0 ? 0 : -100 - fault);
+            due(4, "'" + f[0] + "'", new Bench().read((String) f[0]), fault < 0 ? 0 : -100 - fault);
         }
-        WantsBench x = new WantsBench();
-        due(4, "a fault empties THE TAPE", read(x, "a>x1 "), -104);
+        Bench x = new Bench();
+        due(4, "a fault empties THE TAPE", x.read("a>x1 "), -104);
         due(4, "bytes on THE TAPE", x.count(5), 0);
         due(4, "a fault is no want", x.count(0), 0);
-        due(4, "the next text is read anew", read(x, "a>x1"), 0);
+        due(4, "the next text is read anew", x.read("a>x1"), 0);
     }
 
     private static void wantDepth() {
@@ -204,16 +189,16 @@ public final class PromisesTest {
         };
         for (Object[] t : texts) {
             int fault = (Integer) t[1];
-            due(4, "'" + t[0] + "'", read(new WantsBench(), (String) t[0]), fault < 0 ? 0 : -100 - fault);
+            due(4, "'" + t[0] + "'", new Bench().read((String) t[0]), fault < 0 ? 0 : -100 - fault);
         }
     }
 
     private static void giveUp() {
-        WantsBench x = with("!x", "!y");
+        Bench x = with("!x", "!y");
         due(5, "giveUp(-1)", x.giveUp(-1), NONE);
         due(5, "giveUp(2)", x.giveUp(2), NONE);
         due(5, "giveUp(HIGH)", x.giveUp(HIGH), NONE);
-        WantsBench y = with("!x");
+        Bench y = with("!x");
         due(5, "on day 0", y.giveUp(0), 1);
         due(5, "on day 0 again", y.giveUp(0), THERE);
         x.today(3);
@@ -227,13 +212,13 @@ public final class PromisesTest {
     }
 
     private static void about() {
-        WantsBench x = new WantsBench();
+        Bench x = new Bench();
         x.today(7);
-        feed(x, "!~x&a");
+        x.feed("!~x&a");
         x.want(3, 40, 50);
-        feed(x, "a>x2");
+        x.feed("a>x2");
         x.want(9, 99, 1);
-        feed(x, "a;(x)3");
+        x.feed("a;(x)3");
         x.want(0, 1, 99);
         int[][] rows = {{0, 0, 3, 40, 50, 7, -1, 0, 5}, {1, 2, 9, 99, 1, 7, -1, 0, 4}, {2, 3, 0, 1, 99, 7, -1, 0, 6}};
         for (int w = 0; w < 3; w++) {
@@ -241,7 +226,7 @@ public final class PromisesTest {
                 due(6, "about(" + w + ", " + what + ")", x.about(w, what), rows[w][what]);
             }
         }
-        due(6, "a NEVER behind a FOR 3", read(x, "!x"), 3);
+        due(6, "a NEVER behind a FOR 3", x.read("!x"), 3);
         due(6, "has n 0", x.about(3, 1), 0);
         x.part();
         x.part();
@@ -261,9 +246,13 @@ public final class PromisesTest {
         due(6, "about(LOW, HIGH)", x.about(LOW, HIGH), NONE);
     }
 
+    private static Bench withExpressions() {
+        return with("!a", "b>c1", "x;y0", "z>a&b|~x&(y|0)1", "!1", "!0");
+    }
+
     private static void holds() {
-        WantsBench x = with("!a", "b>c1", "x;y0", "z>a&b|~x&(y|0)1", "!1", "!0");
         for (int in = 0; in < 8; in++) {
+            Bench x = withExpressions();
             for (int out = 0; out < 8; out++) {
                 String at = "holds with " + in + ", " + out;
                 boolean a = (in & 1) != 0;
@@ -281,6 +270,7 @@ public final class PromisesTest {
                 due(7, at, x.holds(5, 0, in, out), 0);
             }
         }
+        Bench x = withExpressions();
         due(7, "a NEVER has no second one", x.holds(0, 1, 0, 0), NONE);
         due(7, "which 2", x.holds(1, 2, 0, 0), NONE);
         due(7, "which -1", x.holds(1, -1, 0, 0), NONE);
@@ -293,7 +283,7 @@ public final class PromisesTest {
     }
 
     private static void nextNever() {
-        WantsBench x = with("!a&x");
+        Bench x = with("!a&x");
         for (int s = 0; s < 4; s++) {
             due(8, "a NEVER broken in " + s, x.next(0, s, 8 * 1 + 1), NOT);
             due(8, "a NEVER keeps " + s, x.next(0, s, 8 * 1 + 6), s);
@@ -306,7 +296,7 @@ public final class PromisesTest {
         due(8, "want LOW", x.next(LOW, 0, 0), NONE);
     }
 
-    private static void rows(WantsBench x, int want, int[][] rows) {
+    private static void rows(Bench x, int want, int[][] rows) {
         int[] tolds = {0, 8, 1, 9};
         for (int s = 0; s < 4; s++) {
             for (int t = 0; t < 4; t++) {
@@ -317,21 +307,21 @@ public final class PromisesTest {
 
     /** Columns: neither, E alone, F alone, both. */
     private static void nextWithin() {
-        WantsBench x = with("a>x0", "a>x1", "a>x2", "a>x3");
+        Bench x = with("a>x0", "a>x1", "a>x2", "a>x3");
         for (int n = 0; n < 4; n++) {
             rows(x, n, new int[][] {{0, n == 0 ? NOT : n, 0, 0}, {NOT, NOT, 0, 0}, {1, 1, 0, 0}, {2, 2, 0, 0}});
         }
     }
 
     private static void nextFor() {
-        WantsBench x = with("a;x0", "a;x1", "a;x2", "a;x3");
+        Bench x = with("a;x0", "a;x1", "a;x2", "a;x3");
         for (int n = 0; n < 4; n++) {
             rows(x, n, new int[][] {{0, n, 0, n}, {NOT, NOT, 0, n}, {NOT, NOT, 1, Math.max(1, n)}, {NOT, NOT, 2, Math.max(2, n)}});
         }
     }
 
     private static void can() {
-        WantsBench x = with("a>x2", "!x", "a;~y1", "!~y&b", "!a", "!x&~x", "0;0 3".replace(" ", ""));
+        Bench x = with("a>x2", "!x", "a;~y1", "!~y&b", "!a", "!x&~x", "0;0 3".replace(" ", ""));
         due(9, "alone", x.can(1), 1);
         due(9, "never x", x.can(2), 1);
         due(9, "x within 2, and never", x.can(3), 0);
@@ -347,14 +337,14 @@ public final class PromisesTest {
         due(9, "given up or not", giveUpAndAsk(x), 0);
     }
 
-    private static int giveUpAndAsk(WantsBench x) {
+    private static int giveUpAndAsk(Bench x) {
         x.giveUp(0);
         x.giveUp(1);
         return x.can(3);
     }
 
     private static void safe() {
-        WantsBench x = with("a>x2", "!x", "a;x1", "!a", "0;x1", "0>x1", "a>0" + "3", "1>~x3");
+        Bench x = with("a>x2", "!x", "a;x1", "!a", "0;x1", "0>x1", "a>0" + "3", "1>~x3");
         due(10, "x whenever it is needed", x.safe(1), 4);
         due(10, "the states of a NEVER count", x.safe(2), 4);
         due(10, "none", x.safe(1 | 2), 0);
@@ -371,7 +361,7 @@ public final class PromisesTest {
     }
 
     private static void playAndTick() {
-        WantsBench x = with("a>x2", "!x&y", "b;y1");
+        Bench x = with("a>x2", "!x&y", "b;y1");
         due(11, "play(5)", x.play(5), 1);
         due(12, "a: nothing at once", x.tick(1), 0);
         due(14, "x is waited for", x.state(0), 2);
@@ -399,7 +389,7 @@ public final class PromisesTest {
         due(12, "more than 200 ticks", manyTicks(x), 300);
     }
 
-    private static int manyTicks(WantsBench x) {
+    private static int manyTicks(Bench x) {
         int good = 0;
         for (int i = 0; i < 300; i++) {
             good += x.tick(i & 1) >= 0 ? 1 : 0;
@@ -408,7 +398,7 @@ public final class PromisesTest {
     }
 
     private static void playEnds() {
-        WantsBench x = with("a;x1", "b;~x1", "!y");
+        Bench x = with("a;x1", "b;~x1", "!y");
         due(11, "play of what can't be obeyed", x.play(3), 0);
         due(14, "it has begun all the same", x.state(1), 0);
         due(13, "nothing is OPEN", x.open(0), 0);
@@ -422,7 +412,7 @@ public final class PromisesTest {
     }
 
     private static void open() {
-        WantsBench x = with("a>x1", "!y&~c", "b;z1");
+        Bench x = with("a>x1", "!y&~c", "b;z1");
         due(13, "no PLAY", x.open(0), NONE);
         x.play(7);
         due(13, "y is not OPEN without c", x.open(0), 4);
@@ -441,7 +431,7 @@ public final class PromisesTest {
 
     /** Five wants that part the tolds of the first position into 32 places: none of them may get lost. */
     private static int opensOfAllWays() {
-        WantsBench x = with("a;11", "b;11", "c;11", "x;11", "y;11");
+        Bench x = with("a;11", "b;11", "c;11", "x;11", "y;11");
         x.play(31);
         int all = 0;
         for (int in = 0; in < 8; in++) {
@@ -452,13 +442,13 @@ public final class PromisesTest {
 
     /** x binds the thing to both y and ~y in the next tick, so x breaks nothing and is not OPEN all the same. */
     private static int opensOfTrap() {
-        WantsBench x = with("x;y1", "x;~y1");
+        Bench x = with("x;y1", "x;~y1");
         x.play(3);
         return x.open(0);
     }
 
     private static void state() {
-        WantsBench x = with("a>x3", "!x&y", "b;y2", "c;z3");
+        Bench x = with("a>x3", "!x&y", "b;y2", "c;z3");
         due(14, "no PLAY", x.state(0), NONE);
         x.play(2 | 4 | 8);
         due(14, "not of it", x.state(0), NONE);
@@ -477,7 +467,7 @@ public final class PromisesTest {
     }
 
     private static void loses() {
-        WantsBench x = with("a>x2", "!x", "!c", "b;~y1", "a;y1", "!x&~x", "c>z3", "c;~z3", "1;0" + "0");
+        Bench x = with("a>x2", "!x", "!c", "b;~y1", "a;y1", "!x&~x", "c>z3", "c;~z3", "1;0" + "0");
         due(15, "a, and two ticks more", x.loses(3), 3);
         due(15, "at once", x.loses(4), 1);
         due(15, "the soonest of several", x.loses(7), 1);
@@ -491,7 +481,7 @@ public final class PromisesTest {
     }
 
     private static void world() {
-        WantsBench x = with("a>x2", "!x", "!c", "b;~y1", "a;y1", "!a&b&c", "b>x0");
+        Bench x = with("a>x2", "!x", "!c", "b;~y1", "a;y1", "!a&b&c", "b>x0");
         due(16, "a", x.world(3), 1);
         due(16, "c", x.world(4), 4);
         due(16, "the soonest, not the least", x.world(7), 4);
@@ -506,7 +496,7 @@ public final class PromisesTest {
     }
 
     private static void quarrel() {
-        WantsBench x = with("a>x0", "!x&y", "a;y1", "!x", "!a", "b>y0", "!y");
+        Bench x = with("a>x0", "!x&y", "a;y1", "!x", "!a", "b>y0", "!y");
         due(17, "two of three", x.quarrel(1 | 2 | 8), 1 | 8);
         due(17, "all three", x.quarrel(1 | 2 | 4), 7);
         due(17, "one alone, though it has the greatest number", x.quarrel(1 | 8 | 16), 16);
@@ -525,7 +515,7 @@ public final class PromisesTest {
     }
 
     private static void follows() {
-        WantsBench x = with("a>x0", "a>x1", "a;x2", "a;x1", "!x", "!x&y", "!1", "0>x0", "b>a0", "b>x0");
+        Bench x = with("a>x0", "a>x1", "a;x2", "a;x1", "!x", "!x&y", "!1", "0>x0", "b>a0", "b>x0");
         due(18, "later from sooner", x.follows(1, 1), 1);
         due(18, "sooner from later", x.follows(0, 2), 0);
         due(18, "shorter from longer", x.follows(3, 4), 1);
@@ -550,12 +540,12 @@ public final class PromisesTest {
     }
 
     private static void peace() {
-        WantsBench x = new WantsBench();
-        read(x, "a;x2", 50, 3);
-        read(x, "b;~x1", 40, 8);
-        read(x, "!y", 9, 1);
-        read(x, "!a", 7, 1);
-        read(x, "!~y&~y", 5, 1);
+        Bench x = new Bench();
+        x.read("a;x2", 50, 3);
+        x.read("b;~x1", 40, 8);
+        x.read("!y", 9, 1);
+        x.read("!a", 7, 1);
+        x.read("!~y&~y", 5, 1);
         due(19, "no price", x.peace(5), 0);
         due(20, "kept", x.made(0) + x.made(2), 0);
         due(19, "a;x2 by 2 for 6, or b;~x1 by 1 for 8", x.peace(3), 6);
@@ -571,49 +561,49 @@ public final class PromisesTest {
         due(19, "five wants", x.peace(31), NONE);
         due(19, "not there", x.peace(32), NONE);
         due(19, "peace(-1)", x.peace(-1), NONE);
-        WantsBench y = new WantsBench();
-        read(y, "a>x0", 30, 4);
-        read(y, "a;~x0", 30, 1);
-        read(y, "!x&a", 30, 1);
+        Bench y = new Bench();
+        y.read("a>x0", 30, 4);
+        y.read("a;~x0", 30, 1);
+        y.read("!x&a", 30, 1);
         due(19, "by 3 ticks more there is no a-free tick for sure", y.peace(5), 30);
-        WantsBench z = new WantsBench();
-        read(z, "x|~x>x0", 30, 4);
-        read(z, "x;~x2", 30, 40);
+        Bench z = new Bench();
+        z.read("x|~x>x0", 30, 4);
+        z.read("x;~x2", 30, 40);
         due(19, "x every third tick: two ticks more", z.peace(3), 8);
         due(20, "EASED by 2", z.made(0), 2);
         due(20, "kept", z.made(1), 0);
         due(19, "asking changes no want", z.about(0, 1) + z.can(3), 0);
-        WantsBench u = new WantsBench();
-        read(u, "1>x0", 30, 4);
-        read(u, "x;~x3", 30, 40);
+        Bench u = new Bench();
+        u.read("1>x0", 30, 4);
+        u.read("x;~x3", 30, 40);
         due(19, "x every fourth tick: three ticks more", u.peace(3), 12);
         due(20, "EASED by 3", u.made(0), 3);
     }
 
     private static void peaceTies() {
-        WantsBench x = new WantsBench();
-        read(x, "!x", 5, 1);
-        read(x, "!~x", 5, 1);
+        Bench x = new Bench();
+        x.read("!x", 5, 1);
+        x.read("!~x", 5, 1);
         due(19, "either is left", x.peace(3), 5);
         due(20, "the first is kept", x.made(0), 0);
         due(20, "the second is left", x.made(1), 4);
-        WantsBench y = new WantsBench();
-        read(y, "a;x1", 6, 6);
-        read(y, "!a&x", 9, 1);
+        Bench y = new Bench();
+        y.read("a;x1", 6, 6);
+        y.read("!a&x", 9, 1);
         due(19, "EASED or left for 6", y.peace(3), 6);
         due(20, "EASED comes ahead of left", y.made(0), 1);
-        WantsBench z = new WantsBench();
-        read(z, "a;x3", 9, 2);
-        read(z, "b;~x3", 9, 2);
+        Bench z = new Bench();
+        z.read("a;x3", 9, 2);
+        z.read("b;~x3", 9, 2);
         due(19, "either by 3", z.peace(3), 6);
         due(20, "the first is kept", z.made(0), 0);
         due(20, "the second is EASED by 3", z.made(1), 3);
     }
 
     private static void made() {
-        WantsBench x = new WantsBench();
-        read(x, "!a", 7, 1);
-        read(x, "!y", 7, 1);
+        Bench x = new Bench();
+        x.read("!a", 7, 1);
+        x.read("!y", 7, 1);
         due(20, "before any", x.made(0), NONE);
         x.peace(1);
         due(20, "left", x.made(0), 4);
@@ -631,7 +621,7 @@ public final class PromisesTest {
     }
 
     private static void told() {
-        WantsBench x = with("!x");
+        Bench x = with("!x");
         due(21, "told(8, 0)", x.told(8, 0), NONE);
         due(21, "told(0, 8)", x.told(0, 8), NONE);
         due(21, "told(-1, 0)", x.told(-1, 0), NONE);
@@ -653,7 +643,7 @@ public final class PromisesTest {
     }
 
     private static void held() {
-        WantsBench x = with("a>x2", "a;x1", "!y&b", "c>z0");
+        Bench x = with("a>x2", "a;x1", "!y&b", "c>z0");
         due(23, "an empty run", x.held(0), NOT);
         x.told(1, 0);
         x.told(1, 1);
@@ -678,9 +668,9 @@ public final class PromisesTest {
     }
 
     private static void kept() {
-        WantsBench x = with("!x", "!y");
+        Bench x = with("!x", "!y");
         x.today(3);
-        read(x, "!z");
+        x.read("!z");
         x.today(5);
         x.giveUp(0);
         due(24, "day 0", x.kept(0), 2);
@@ -698,13 +688,13 @@ public final class PromisesTest {
         due(24, "kept(-1)", x.kept(-1), NONE);
         due(24, "kept(10000)", x.kept(10000), NONE);
         due(24, "kept(LOW)", x.kept(LOW), NONE);
-        WantsBench y = with("!x");
+        Bench y = with("!x");
         y.giveUp(0);
         due(24, "given up on its own day", y.kept(0), 0);
     }
 
-    private static WantsBench parted(int many, String... texts) {
-        WantsBench x = with(texts);
+    private static Bench parted(int many, String... texts) {
+        Bench x = with(texts);
         for (int i = 0; i < many; i++) {
             due(25, "part()", x.part(), i);
         }
@@ -712,7 +702,7 @@ public final class PromisesTest {
     }
 
     private static void part() {
-        WantsBench x = parted(20);
+        Bench x = parted(20);
         due(25, "a part more", x.part(), FULL);
         due(25, "count(4)", x.count(4), 20);
         due(29, "all are BARE", x.bare(0), (1 << 20) - 1);
@@ -721,7 +711,7 @@ public final class PromisesTest {
     }
 
     private static void use() {
-        WantsBench x = parted(4, "!x");
+        Bench x = parted(4, "!x");
         due(26, "use(2, 0, 1)", x.use(2, 0, 1), 0);
         due(26, "again", x.use(2, 0, 1), 1);
         due(26, "no more", x.use(2, 0, 0), 1);
@@ -742,7 +732,7 @@ public final class PromisesTest {
     }
 
     private static void lead() {
-        WantsBench x = parted(3, "!x", "!y");
+        Bench x = parted(3, "!x", "!y");
         due(27, "lead(0, 2, 1)", x.lead(0, 2, 1), 0);
         due(27, "again", x.lead(0, 2, 1), 1);
         due(27, "another want", x.lead(1, 2, 1), 0);
@@ -762,9 +752,9 @@ public final class PromisesTest {
     }
 
     private static void gaps() {
-        WantsBench x = parted(2, "!x", "!y", "!z");
+        Bench x = parted(2, "!x", "!y", "!z");
         x.today(2);
-        read(x, "!a");
+        x.read("!a");
         x.lead(1, 0, 1);
         due(28, "day 0", x.gaps(0), 1 | 4);
         due(28, "day 2", x.gaps(2), 1 | 4 | 8);
@@ -780,7 +770,7 @@ public final class PromisesTest {
     }
 
     private static void bare() {
-        WantsBench x = parted(6, "!x", "!y");
+        Bench x = parted(6, "!x", "!y");
         x.use(3, 1, 1);
         x.use(1, 0, 1);
         x.use(4, 3, 1);
@@ -798,7 +788,7 @@ public final class PromisesTest {
     }
 
     private static void reach() {
-        WantsBench x = parted(6, "!x", "!y");
+        Bench x = parted(6, "!x", "!y");
         x.use(3, 1, 1);
         x.use(1, 0, 1);
         x.use(4, 3, 1);
@@ -816,7 +806,7 @@ public final class PromisesTest {
     }
 
     private static int chain() {
-        WantsBench x = parted(20, "!x");
+        Bench x = parted(20, "!x");
         for (int p = 1; p < 20; p++) {
             x.use(p, p - 1, 1);
         }
@@ -825,14 +815,14 @@ public final class PromisesTest {
     }
 
     private static void wants() {
-        WantsBench x = parted(4, "!x", "!y", "!z");
+        Bench x = parted(4, "!x", "!y", "!z");
         x.use(2, 0, 1);
         x.use(3, 2, 1);
         x.lead(0, 0, 1);
         x.lead(1, 2, 1);
         x.today(6);
         x.giveUp(1);
-        read(x, "!a");
+        x.read("!a");
         x.lead(3, 3, 1);
         due(31, "part 0", x.wants(0, 5), 1);
         due(31, "part 1", x.wants(1, 5), 0);
@@ -846,14 +836,14 @@ public final class PromisesTest {
     }
 
     private static void count() {
-        WantsBench x = parted(3, "!x", "!y");
+        Bench x = parted(3, "!x", "!y");
         x.today(11);
         x.giveUp(0);
         x.told(0, 0);
         x.told(0, 0);
         x.told(0, 0);
         x.told(0, 0);
-        feed(x, "abcdef");
+        x.feed("abcdef");
         int[] row = {2, 11, 1, 4, 3, 6};
         for (int what = 0; what < 6; what++) {
             due(32, "count(" + what + ")", x.count(what), row[what]);
@@ -866,9 +856,9 @@ public final class PromisesTest {
 
     /** What is no SET is none for all calls that take one: no bit, six of them, one not there, the highest bits. */
     private static void sets() {
-        WantsBench x = new WantsBench();
+        Bench x = new Bench();
         for (int i = 0; i < 20; i++) {
-            read(x, "!x");
+            x.read("!x");
         }
         int[] bad = {0, 63, 1 << 20, 1 | 1 << 31, -1, LOW, HIGH};
         for (int set : bad) {

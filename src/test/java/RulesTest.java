@@ -84,16 +84,13 @@ public final class RulesTest {
         int[] wild = {Integer.MIN_VALUE, Integer.MIN_VALUE + 1, -101, -2, -1, 0, 1, 2, 3, 4, 5, 6, 7, 8, 15, 19, 20, 31, 32, 33, 63, 64,
             1 << 19, 1 << 20, 1 << 31, 10000, Integer.MAX_VALUE};
         WantsBench x = new WantsBench();
-        String text = "a>x1";
         int seed = 1;
         for (int round = 0; round < 4000; round++) {
-            if (round % 512 == 0) {
+            if (round % 14 == 0) {
                 x = new WantsBench();
             }
-            if (round % 64 == 0) {
-                for (int i = 0; i < text.length(); i++) {
-                    x.feed(1, text.charAt(i));
-                }
+            if (round % 14 < round % 20) {
+                x.feed(4, 'a' | '>' << 8 | 'x' << 16 | '1' << 24);
                 x.want(0, 1, 1);
                 x.part();
             }
@@ -122,7 +119,7 @@ public final class RulesTest {
             x.feed(4, 'a' + w % 3 | (w % 2 == 0 ? '>' : ';') << 8 | 'x' + w / 2 % 3 << 16 | '0' + w % 4 << 24);
             x.want(0, 1, 1);
         }
-        for (int i = 0; i < 80; i++) {
+        for (int i = 0; i < 78; i++) {
             int set = 31 << i % 16;
             x.play(set);
             x.tick(7);

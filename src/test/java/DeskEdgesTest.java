@@ -12,6 +12,7 @@ public final class DeskEdgesTest {
     public static void main(String[] args) {
         newObject();
         memoryOfItsOwn();
+        lastCalls();
         today();
         feedNumbers();
         feedOrder();
@@ -116,6 +117,36 @@ public final class DeskEdgesTest {
         due("state of the one", one.state(1), 0);
         due("state of the other", other.state(0), 0);
         due("state of the other", other.state(1), 3);
+        one.told(1, 0);
+        other.told(2, 0);
+        one.told(0, 0);
+        other.told(0, 0);
+        due("the run of the one", one.held(1), NOT);
+        due("the run of the other", other.held(1), 1);
+        due("peace of the one", one.peace(1), 0);
+        due("peace of the other", other.peace(2), 0);
+        due("made by the one", one.made(1), NONE);
+        due("made by the other", other.made(1), 0);
+        one.feed("!x");
+        other.feed("a>y0");
+        due("the tape of the one", one.want(1, 2, 3), 2);
+        due("the tape of the other", other.want(4, 5, 6), 2);
+        due("the want of the one", one.about(2, 3), 2);
+        due("the want of the other", other.about(2, 3), 5);
+    }
+
+    private static void lastCalls() {
+        says(1, "An object is used for at most 512 calls after it has been made");
+        Bench x = new Bench();
+        for (int d = 1; d < 512; d++) {
+            due("today(" + d + ")", x.today(d), d - 1);
+        }
+        due("the 512th call", x.count(1), 511);
+        Bench dear = Edges.with("a;x3", "b;~x3", "c;x&y3", "a|b;~y3");
+        int answer = dear.peace(15);
+        while (dear.left() > 0) {
+            due("the dearest call, " + dear.left() + " ahead of the last", dear.peace(15), answer);
+        }
     }
 
     private static void today() {
@@ -244,6 +275,7 @@ public final class DeskEdgesTest {
         due("and FULL again", x.want(0, 1, 1), FULL);
         due("bytes on THE TAPE", x.count(5), 2);
         due("to which more may come", x.feed(1, 'x'), 3);
+        Edges.refused("want(0, 1, 1) of a text that ends too early", Edges::fullWants, y -> y.want(0, 1, 1), FULL);
         Edges.refused("want(0, 1, 1)", DeskEdgesTest::fullWithText, y -> y.want(0, 1, 1), FULL);
         Edges.refused("want(9, 99, 99)", DeskEdgesTest::fullWithText, y -> y.want(9, 99, 99), FULL);
         says(4, "Answers, the first that a call names: NONE (-1)");

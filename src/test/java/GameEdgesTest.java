@@ -4,6 +4,17 @@ public final class GameEdgesTest {
     private static final int LOW = Edges.LOW, HIGH = Edges.HIGH;
     private static final String SET = "A SET of WANTS (told as bits, 1 to 5 of them, all there, whether GIVEN UP or not).";
 
+    private static final String[] TEXTS = {"a>x2", "!x", "b;~y1", "a;y1", "c>z3", "x;~x3", "1>x0", "0>y3"};
+    /** The TICK with IN 0 and OUT 0, and the one with IN 7 and OUT 7. */
+    private static final String[] ONE_TICK = {"~a&~b&~c&~x&~y&~z", "a&b&c&x&y&z"};
+    private static final int[] SETS = {1, 2 | 128, 3, 4 | 8, 1 | 16, 32 | 64, 4 | 16 | 128, 8 | 32, 1 | 4 | 8 | 16, 1 | 16 | 32 | 128};
+    private static final Edges.Asked[] QUESTIONS = {Bench::can, Bench::safe, Bench::loses, Bench::world, Bench::quarrel,
+        (x, set) -> x.follows(set & 1, set & ~2), Bench::peace, Bench::play};
+    private static final int[] PROMISES = {9, 10, 15, 16, 17, 18, 19, 11};
+    private static final String[] WORDS = {"1 if the thing CAN obey a SET from the first POSITION, else 0.",
+        "How many POSITIONS of a SET are SAFE", "LOSES IN, of the first POSITION of a SET.", "WORLD's IN there.", "QUARREL of a SET, as bits.",
+        "1 if a WANT FOLLOWS from a SET", "PEACE: the least price.", "THE PLAY of a SET begins"};
+
     public static void main(String[] args) {
         can();
         safe();
@@ -23,6 +34,7 @@ public final class GameEdgesTest {
         peaceByEasing();
         peaceTies();
         made();
+        questionsLeaveNoTrace();
         Edges.finish(9, 20);
     }
 
@@ -72,6 +84,8 @@ public final class GameEdgesTest {
             due("no STATE above 0 is SAFE, WITHIN " + n, Edges.with("0>0" + n).safe(1), 1);
             due("no STATE above 0 is SAFE, FOR " + n, Edges.with("0;0" + n).safe(1), 1);
         }
+        due("all of 1024", Edges.with("a>x3", "b>y2", "c>z1", "a;x3", "b;y2").safe(31), 1024);
+        due("none, though some are lost later than the first", Edges.with("a>x0", "!x").safe(3), 0);
         due("one of 1024", Edges.with("0>03", "0;03", "0>00", "0;00", "0>01").safe(31), 1);
         due("the highest STATE of one of five", Edges.with("0>03", "0;03", "0>00", "0;00", "0>x1").safe(31), 4);
         due("the highest STATE of another", Edges.with("0;x0", "0;03", "0>00", "0;00", "0>01").safe(31), 4);
@@ -174,6 +188,20 @@ public final class GameEdgesTest {
             due("none is OPEN for " + in, none.open(in), 0);
         }
         due("asking ends nothing", none.state(0), 0);
+        Bench ways = Edges.with("a;11", "b;11", "c;11", "x;11", "y;11");
+        ways.play(31);
+        for (int in = 0; in < 8; in++) {
+            due("32 POSITIONS may be next, all SAFE, for " + in, ways.open(in), 8);
+        }
+        for (String one : ONE_TICK) {
+            Bench apart = Edges.with(one + ";11", "~(" + one + ");11");
+            for (int set = 1; set <= 3; set++) {
+                apart.play(set);
+                due("apart from all others: " + one, outsOpen(apart), outsOpen(all));
+            }
+        }
+        due("the last of them", ways.tick(7), 0);
+        due("with STATE 1", ways.state(2), 1);
         due("a tick does", none.tick(0), NOT);
         Bench x = Edges.with("a>x1");
         x.play(1);
@@ -344,6 +372,13 @@ public final class GameEdgesTest {
         due("in the same tick, or not", Edges.with("!a&x", "!a").follows(1, 1), 0);
         due("by all four", Edges.with("!x&y", "!x&~y", "!~x&y", "!~x&~y", "!1").follows(4, 15), 1);
         due("by three of them", Edges.with("!x&y", "!x&~y", "!~x&y", "!0", "!1").follows(4, 15), 0);
+        for (String one : ONE_TICK) {
+            due("by one TICK alone: " + one, Edges.with("!0", one + ";01").follows(1, 1), 0);
+            due("by no other TICK than " + one, Edges.with("!" + one, one + ";01").follows(1, 1), 1);
+            due("not by that one: " + one, Edges.with("!" + one, "~(" + one + ");01").follows(1, 1), 0);
+        }
+        due("behind 1024 POSITIONS", Edges.with("a;13", "b;13", "x;13", "y;13", "c>z3").follows(4, 15), 0);
+        due("in none of 1024 POSITIONS", Edges.with("a;13", "b;13", "x;13", "y;13", "c>13").follows(4, 15), 1);
         due("from the first POSITION on", Edges.with("!x", "0>x3").follows(1, 1), 1);
     }
 
@@ -458,6 +493,50 @@ public final class GameEdgesTest {
             due("peace(" + set + ") again", y.peace(set), NONE);
             due("made(0), as before", y.made(0), 0);
             due("made(1), as before", y.made(1), NONE);
+        }
+    }
+
+    private static int outsOpen(Bench x) {
+        int many = 0;
+        for (int in = 0; in < 8; in++) {
+            many = 9 * many + x.open(in) + 1;
+        }
+        return many;
+    }
+
+    /** A question about one SET changes no answer about another one, nor THE PLAY or what peace() made. */
+    private static void questionsLeaveNoTrace() {
+        for (int q = 0; q < QUESTIONS.length * SETS.length; q++) {
+            Edges.Asked asked = QUESTIONS[q / SETS.length];
+            int set = SETS[q % SETS.length];
+            says(PROMISES[q / SETS.length], WORDS[q / SETS.length]);
+            int alone = asked.on(Edges.with(TEXTS), set);
+            for (int before = 0; before < QUESTIONS.length * SETS.length; before++) {
+                Bench x = Edges.with(TEXTS);
+                QUESTIONS[before / SETS.length].on(x, SETS[before % SETS.length]);
+                due("question " + q + " behind " + before, asked.on(x, set), alone);
+            }
+            if (asked != QUESTIONS[7] && asked != QUESTIONS[6]) {
+                playAndPeaceStay(asked, set);
+            }
+        }
+    }
+
+    private static void playAndPeaceStay(Edges.Asked asked, int set) {
+        Bench x = Edges.with(TEXTS);
+        x.play(1 | 16 | 128);
+        x.tick(5);
+        x.peace(2 | 32 | 64);
+        Bench y = Edges.with(TEXTS);
+        y.play(1 | 16 | 128);
+        y.tick(5);
+        y.peace(2 | 32 | 64);
+        asked.on(y, set);
+        due("OUTS of THE PLAY", outsOpen(y), outsOpen(x));
+        due("its next tick", y.tick(0), x.tick(0));
+        for (int w = 0; w < TEXTS.length; w++) {
+            due("state(" + w + ")", y.state(w), x.state(w));
+            due("made(" + w + ")", y.made(w), x.made(w));
         }
     }
 }

@@ -334,7 +334,7 @@ final class Edges {
         counts(x, rows);
     }
 
-    /** Calls that take a WANT, by its number: taken[] are there on a desk of three wants and on one of twenty. */
+    /** Calls that take a WANT, by its number; taken is the answer for one that is there. */
     static void wantEdges(String call, Asked asked, int taken) {
         wantEdges(call, asked, taken, wants -> withMany(wants, "a>x2"));
     }
@@ -429,7 +429,7 @@ final class Edges {
         refusedAll(call, Edges::desk, asked, NONE, -1, DESK_PARTS, 20, 32, 34, -32, LOW, HIGH);
     }
 
-    /** Calls that take a SET, of at most so many wants: one, most answers for SETS of one and of the most. */
+    /** Calls that take a SET of at most so many wants; one and mostOnes are the answers for SETS of one !x and of the most. */
     static void setEdges(String call, Asked asked, int most, int one, int mostOnes) {
         int full = (1 << most) - 1;
         due(call + ": of no wants", asked.on(new Bench(), 0), NONE);
@@ -440,12 +440,12 @@ final class Edges {
         due(call + ": given up", asked.on(givenUp(7), full), mostOnes);
         due(call + ": the last of 20", asked.on(withMany(20, "!x"), 1 << 19), one);
         due(call + ": the last most of 20", asked.on(withMany(20, "!x"), full << 20 - most), mostOnes);
-        int beyond = 1 << most;
-        int[] none = {0, full | beyond, full << 1 | 1 << most + 1 | 1, 1 << 20, 1 << 19 | 1 << 20, 1 << 31, 1 | 1 << 31, -1, LOW, HIGH, (1 << 20) - 1};
+        int tooMany = (1 << most + 1) - 1;
+        int[] none = {0, tooMany, tooMany << 19 - most, (1 << 20) - 1, 1 << 20, 1 << 19 | 1 << 20, 1 << 31, 1 | 1 << 31, -1, LOW, HIGH};
         for (int set : none) {
             due(call + ": " + set + " of 20", asked.on(withMany(20, "!x"), set), NONE);
         }
-        refusedAll(call, Edges::desk, asked, NONE, 0, (1 << most + 1) - 1, 1 << DESK_WANTS, 1 | 1 << DESK_WANTS, 1 << 20, LOW, LOW + 1, -1, HIGH);
+        refusedAll(call, Edges::desk, asked, NONE, 0, tooMany, 1 << DESK_WANTS, 1 | 1 << DESK_WANTS, 1 << 20, LOW, LOW + 1, -1, HIGH);
     }
 
     private static Bench givenUp(int wants) {

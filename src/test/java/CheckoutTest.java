@@ -1,4 +1,5 @@
 import java.io.IOException;
+import java.nio.file.FileVisitOption;
 import java.nio.file.Files;
 import java.nio.file.Path;
 import java.nio.file.StandardCopyOption;
@@ -50,8 +51,9 @@ public final class CheckoutTest {
         return copy;
     }
 
+    /** Links are followed, as ../shared may be one. */
     private static void copyTree(Path from, Path to) throws IOException {
-        try (Stream<Path> files = Files.walk(from)) {
+        try (Stream<Path> files = Files.walk(from, FileVisitOption.FOLLOW_LINKS)) {
             for (Path file : files.filter(f -> isCheckedOut(from.relativize(f))).toList()) {
                 Path end = to.resolve(from.relativize(file).toString());
                 if (Files.isDirectory(file)) {
